@@ -24,7 +24,7 @@ public final class TicketShore {
             SINCE = 7, HAS_MARKS = 8, BANK = 9, LANDED = 10, DEAD = 11, ABOARD_OF = 12, TERM = 13, MAN_WIDTH = 14;
     private static final int SHIP_PLACE = 0, SHIP_WEEK = 1;
     private static final int MASTER_PLACE = 0, MASTER_TRADES = 1, MASTER_HANDS = 2, MASTER_WAGE = 3, MASTER_HAS = 4;
-    private static final int MARK_MAN = 0, MARK_OFFENCE = 2, MARK_VOID = 3;
+    private static final int MARK_MAN = 0, MARK_VOID = 3;
     private static final int LETTER_MAN = 0, LETTER_DUE = 2, LETTER_CAME = 3, LETTER_LATE = 4;
     private static final int JUDGE = 0, JUDGED_DEED = 1, LASHES = 2;
     private static final int STORE = 0, HUNGRY = 1;
@@ -486,7 +486,7 @@ public final class TicketShore {
             return was;
         }
 
-        /** The columns behind the first four begin at 0: an image may have left others there. */
+        /** Rows behind the last are all 0, also as an image brings its own: further columns begin so. */
         int add(int a, int b, int c, int d) {
             int row = rows;
             if ((row + 1) * width > cells.length) return FULL;
@@ -495,7 +495,6 @@ public final class TicketShore {
             set(row, 1, b);
             set(row, 2, c);
             set(row, 3, d);
-            for (int column = 4; column < width; column++) set(row, column, 0);
             return row;
         }
 

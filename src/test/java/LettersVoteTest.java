@@ -29,6 +29,13 @@ public final class LettersVoteTest {
         for (int i = 0; i < 5; i++) eq("42: from him, late, " + i, x.letterTold(1, i), from[i]);
         int[] to = {1, 0, 3, 1, 1};
         for (int i = 0; i < 5; i++) eq("42: to him, late, " + i, x.letterTold(3, i), to[i]);
+        TicketShore y = Checks.landed(2);
+        y.letter(1, 0, 1);
+        y.letter(0, 1, 1);
+        y.dies(1);
+        y.run(2);
+        eq("42: its own man is dead", y.letterTold(0, 4), 1);
+        eq("42: its own man lives", y.letterTold(1, 4), 0);
         eq("42: due", x.letterTold(2, 2), 99);
         eq("42: far", x.letterTold(2, 3), 0);
         for (int i = 4; i < 20; i++) eq("41: number", x.letter(0, 0, 1), i);
@@ -69,6 +76,11 @@ public final class LettersVoteTest {
         x.party(3, 1, 1);
         x.party(3, 2, 1);
         eq("44: wants what it will not have", x.carries(40), Checks.NONE);
+        eq("43: to 0", x.party(3, 0, 0), 50);
+        eq("43: from 0", x.party(3, 0, 99), 0);
+        x.party(3, 1, 255);
+        x.party(3, 2, 0);
+        eq("44: all clauses", x.carries(99), 255);
         eq("44: below", x.carries(0), Checks.BAD);
         eq("44: above", x.carries(1000), Checks.BAD);
         eq("44: greatest", x.carries(999), Checks.NONE);
@@ -81,6 +93,8 @@ public final class LettersVoteTest {
         eq("46: nothing told", x.plan(6, 0, 2), 0);
         eq("45: was", x.way(0, 0, 0, 99), 0);
         eq("45: was 99", x.way(0, 0, 0, 9), 99);
+        eq("45: to 0", x.way(0, 0, 0, 0), 9);
+        eq("45: from 0", x.way(0, 0, 0, 9), 0);
         eq("45: food", x.way(0, 0, 1, 1), 0);
         x.way(0, 1, 0, 4);
         x.way(0, 1, 1, 5);

@@ -110,6 +110,7 @@ public final class MarksActsTest {
         x.run(1);
         eq("24: back from", x.back(0), 0);
         eq("24: bound", x.told(0, 5), 1);
+        eq("24: to nobody", x.told(0, 6), 0);
         eq("24: since", x.told(0, 7), 4);
         eq("23: the hand is free", x.assign(3, 0), 1);
         x.dies(3);
@@ -117,6 +118,9 @@ public final class MarksActsTest {
         eq("23: kind ahead of dead", x.assign(3, 0), Checks.KIND);
         x.dies(0);
         eq("23: dead", x.assign(0, 0), Checks.NO);
+        x.run(2);
+        eq("23: by now he landed", x.assign(2, 1), 1);
+        eq("24: back from another", x.back(2), 1);
     }
 
     private static void mercy() {
@@ -197,6 +201,7 @@ public final class MarksActsTest {
         eq("28: still ironed", x.told(0, 5), 3);
         x.run(1);
         eq("30: bound as week 8 has gone by", x.told(0, 5), 1);
+        eq("30: bound a", x.told(0, 6), 0);
         eq("30: since that week", x.told(0, 7), 8);
         Checks.law(x, "irons o*10+m", 0);
         x.runs(0);
@@ -285,6 +290,23 @@ public final class MarksActsTest {
         eq("30: some did", mark > 0 ? 1 : 0, 1);
     }
 
+    /** The first draw from 0 is 13849: its rest by 100 is 49, and 138 leaves 2 by 4. */
+    private static void oneDraw() {
+        for (int fear = 49; fear <= 50; fear++) {
+            TicketShore x = Checks.landed(1);
+            x.master(0, 63, 9, 50);
+            x.assign(0, 0);
+            x.seed(0);
+            Checks.law(x, "fear " + fear, 0);
+            Checks.law(x, "irons 1", 0);
+            x.run(1);
+            eq("30: offends by the rest", x.count(13), fear - 49);
+            eq("30: irons of one week are over with it", x.told(0, 5), fear == 50 ? 1 : 2);
+            eq("30: they cost him his wage", x.told(0, 9), fear == 50 ? 0 : 50);
+            if (fear == 50) eq("30: the offence", x.markTold(0, 2), 2);
+        }
+    }
+
     private static void orderOfAWeek() {
         TicketShore x = new TicketShore();
         x.ship(3, 1);
@@ -300,6 +322,7 @@ public final class MarksActsTest {
         eq("30: there was enough", x.hungry(3), 0);
         eq("30: free in the week he landed", x.told(0, 5), 6);
         eq("30: since it", x.told(0, 7), 1);
+        eq("30: free a", x.told(0, 6), 0);
         x.master(3, 63, 9, 40);
         x.assign(1, 0);
         Checks.law(x, "ticket 1", 0);
@@ -330,6 +353,7 @@ public final class MarksActsTest {
         seeds();
         weeks();
         offences();
+        oneDraw();
         orderOfAWeek();
         Checks.end("MarksActsTest");
     }

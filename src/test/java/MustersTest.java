@@ -17,6 +17,9 @@ public final class MustersTest {
         eq("47: no more", x.put(0, 24, 5), Checks.INDEX);
         eq("47: anew", x.muster(0, 0, 24), 24);
         eq("47: all 0", x.read(0, 23), 0);
+        x.put(0, 0, 3);
+        x.muster(0, 0, 24);
+        eq("47: the first, too", x.read(0, 0), 0);
         eq("47: none", x.muster(0, 0, 0), 0);
         eq("47: a row without places", x.put(0, 0, 1), Checks.INDEX);
         eq("47: missing, n any", x.muster(0, -1, -9), 0);

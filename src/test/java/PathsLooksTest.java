@@ -21,6 +21,7 @@ public final class PathsLooksTest {
         eq("32: one mile short", x.reach(0, 3), 7);
         eq("32: all the way round", x.reach(0, 4), 63);
         eq("32: from the far end", x.reach(5, 1), 60);
+        eq("32: all the way back", x.reach(5, 4), 63);
         x.path(3, 4, 0);
         eq("32: cut", x.reach(0, 99), 15);
         eq("32: place", x.reach(6, 1), Checks.BAD);
@@ -77,6 +78,14 @@ public final class PathsLooksTest {
         eq("34: the dead, too", x.may(7, 1), 0);
         x.man(0, 1, 2, 30, 1);
         eq("34: as men are told", x.may(7, 0), 17);
+        TicketShore y = new TicketShore();
+        y.ship(0, 9);
+        y.man(0, 0, 0, 20, 127);
+        y.man(0, 0, 0, 20, 255);
+        eq("33: deed and trade 0", y.look(0, 0, 20, 255), 0);
+        eq("34: has all that was seen", y.may(0, 1), 1);
+        y.look(0, 0, 22, 0);
+        eq("34: the highest bit parts", y.may(1, 2), 7);
         eq("35: no more sure", x.same(7, 9), 1);
     }
 
@@ -148,7 +157,10 @@ public final class PathsLooksTest {
         eq("39: cut", x.mean(2, 5), 40);
         eq("40: just twice is not more", x.harsh(5), 0);
         eq("39: other deeds", x.mean(2, 4), Checks.NONE);
-        for (int i = 6; i < 30; i++) eq("38: number", x.sentence(3, 7, 1), i);
+        for (int i = 6; i < 29; i++) eq("38: number", x.sentence(3, 7, 1), i);
+        eq("38: the last", x.sentence(0, 7, 0), 29);
+        eq("39: greatest judge and deed", x.mean(3, 7), 1);
+        eq("40: greatest judge and deed", x.harsh(7), 8);
         eq("38: full", x.sentence(3, 7, 1), Checks.FULL);
         eq("38: bad ahead of full", x.sentence(3, 8, 1), Checks.BAD);
         eq("39: judge", x.mean(4, 0), Checks.BAD);

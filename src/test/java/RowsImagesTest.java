@@ -111,6 +111,7 @@ public final class RowsImagesTest {
         x.run(4);
         x.voids(0, 0);
         x.dies(1);
+        x.dies(2);
         x.put(0, 0, 5);
         x.tell(3);
         x.feed(1, 2, 3);

@@ -72,6 +72,9 @@ public final class ShipsMenTest {
         x.run(1);
         eq("4: free behind two", x.told(0, 5), 6);
         eq("4: since the week that went by", x.told(0, 7), 2);
+        eq("6: free", x.as(0, 6), 0);
+        eq("6: free is not under bound", x.as(0, 1), Checks.KIND);
+        eq("6: but a state", x.as(0, 0), 0);
     }
 
     private static void told() {

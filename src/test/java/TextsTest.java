@@ -29,6 +29,7 @@ public final class TextsTest {
             {"ticket w<m<t", 10}, {"ticket w=m>t", 10}, {"ticket w<m+1=t", 12}, {"ticket w+", 9}, {"ticket +w", 7},
             {"ticket -1", 7}, {"ticket w&|m", 9}, {"ticket !", 8}, {"ticket w!", 8}, {"ticket w !m", 9},
             {"ticket (w)(m)", 10}, {"ticket (w)m", 10}, {"ticket 1(w)", 8}, {"ticket w\tm", 8}, {"ticket\tw", 6},
+            {"ticket w\u0000", 8}, {"ticketz 1", 0}, {"zicket 1", 0},
             {"ticket w\u00ff", 8}, {"ticket \u0000", 7}, {"ticket w pardon m", 9}, {"ticket w<=m", 9},
             {"ticket !!!!!!!!!w", 15}, {"ticket (((((((((w)))))))))", 15}, {"stop w ticket", 5},
             {"ticket !(!(!(!(!(!(!(!(!w))))))))", 23}, {"ticket !!!!(!!!!(!w))", 17}, {"ticket 1`2", 8}, {"ticket {", 7},
@@ -124,6 +125,10 @@ public final class TextsTest {
         eq("17: terms to the left", value("80/4*2", 0, 0, 0), 40);
         eq("17: terms ahead of sums", value("2+3*4", 0, 0, 0), 14);
         eq("17: brackets", value("(2+3)*4", 0, 0, 0), 20);
+        eq("17: brackets end", value("2*(3)-4", 0, 0, 0), 2);
+        eq("17: or within brackets", value("(2|0)*3", 0, 0, 0), 3);
+        eq("17: not of brackets", value("!(w|m)+4", 0, 1, 0), 4);
+        eq("17: both bind alike", value("2*7/4", 0, 0, 0), 3);
         eq("17: not binds one part", value("!w+5", 7, 0, 0), 5);
         eq("17: not not", value("!!w", 7, 0, 0), 1);
         eq("17: and gives 1", value("6&9", 0, 0, 0), 1);
@@ -139,6 +144,12 @@ public final class TextsTest {
         eq("17: product wraps", value("w*w", 65536, 0, 0), 0);
         eq("17: least by -1", value("w/m", Integer.MIN_VALUE, -1, 0), Integer.MIN_VALUE);
         eq("17: ticket is not held", value("0-w", 5, 0, 0), -5);
+        TicketShore x = new TicketShore();
+        Checks.law(x, "ticket !w", 0);
+        eq("17: a not", x.rules(0, 5, 0, 0), 0);
+        Checks.law(x, "ticket (w*", 0);
+        Checks.law(x, "ticket w", 0);
+        eq("17: nothing is left of what was read ahead", x.rules(0, 5, 0, 0), 5);
     }
 
     private static int held(String law, int key, int a, int b, int c) {
