@@ -131,6 +131,7 @@ final class PromisesReckoning {
             + "letterTold(0,3)=0 letterTold(0,4)=0 "
             + "run(2) letterTold(0,3)=0 letterTold(0,4)=0 run(1) letterTold(0,3)=1 letterTold(0,4)=1 run(1) letterTold(0,3)=1 letterTold(0,4)=1");
         l.run("not LATE", LANDED + "letter(0,0,1) run(2) letterTold(0,3)=1 letterTold(0,4)=0 dies(0) run(1) letterTold(0,4)=0");
+        l.run("0 till it came, also if it was sent behind a death", ABOARD + "dies(0) run(1) letter(0,0,1) letterTold(0,3)=0 letterTold(0,4)=0");
         l.run("as its own man is", "ship(0,1) 2*man(0,0,0,20,0) letter(0,0,1) letter(1,0,1) dies(1) run(2) letterTold(0,4)=0 letterTold(1,4)=1");
         l.told("BAD.");
         l.range("letter", ABOARD + "2*letter(0,0,1)", "letterTold(?,0)=0", 0, 1);

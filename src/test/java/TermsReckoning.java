@@ -258,6 +258,8 @@ final class TermsReckoning {
         l.run("looks, sentences, letters", LANDED + "look(8,6,0,0) sentence(0,0,5) letter(0,0,1) keep() look(0,0,0,0) sentence(0,0,9) "
             + "letter(0,0,2) run(3) again() "
             + "count(15)=1 count(16)=1 count(17)=1 mean(0,0)=5 letterTold(0,3)=0 letter(0,1,9)=1 letterTold(1,2)=11");
+        l.run("THE ASSIGNING as it was", LANDED + "master(0,63,9,1) keep() ship(0,3) 5*man(1,0,0,20,0) run(2) most()=6 again() most()=1 goes(0)=0 goes(1)=BAD");
+        l.run("what MAY BE as it was", LANDED + "look(8,6,0,0) keep() ship(0,3) 5*man(1,0,0,20,0) may(0,0)=63 again() may(0,0)=1 may(0,1)=0");
         l.run("again and again", "keep()=0 run(5) again()=0 run(7) again()=0 again()=0 run(3) keep()=3 run(1) again()=3");
         l.told("THE WEEKS TOLD: how many MARKS there are (VOID ones not), and all that is in BANKS together, "
             + "behind each of n WEEKS from THE IMAGE on (nobody doing anything).");
